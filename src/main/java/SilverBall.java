@@ -6,6 +6,7 @@ public final class SilverBall {
     public static final int NONE = -1;
 
     private static final int MOST_BYTES = 4000;
+    private static final int BYTES_OF_A_FEED = 20;
     private static final int MOST_TOKENS = 1000;
     private static final int MOST_SWITCHES = 16;
     private static final int MOST_COILS = 8;
@@ -98,21 +99,21 @@ public final class SilverBall {
 
     private final Table table = new Table();
     private boolean hasTable = false;
-    private final Game game = new Game(table);
+    private final Game game = new Game(table, true);
     private boolean playing = false;
 
     /** The game's presses, each with the tick at which it came; the ticks between them are told by that. */
     private final int[] logSwitches = new int[MOST_PRESSES];
     private final int[] logTicks = new int[MOST_PRESSES];
     private int logged = 0;
-    /** A second game on the same table, in which the log is played once more. */
-    private final Game replay = new Game(table);
+    /** A second game on the same table, in which the log is played once more for its score alone. */
+    private final Game replay = new Game(table, false);
 
     public SilverBall() {
     }
 
     public int feed(int a, int b, int c, int d, int e) {
-        if (taped > MOST_BYTES - 20) {
+        if (taped + BYTES_OF_A_FEED > MOST_BYTES) {
             return NONE;
         }
         putBytes(a);
@@ -256,11 +257,11 @@ public final class SilverBall {
         }
         switch (what) {
             case 0:
-                return game.on[m] ? 1 : 0;
+                return game.modes.on[m] ? 1 : 0;
             case 1:
-                return game.left[m];
+                return game.modes.left[m];
             case 2:
-                return game.starts[m];
+                return game.modes.starts[m];
             default:
                 return NONE;
         }
@@ -599,28 +600,9 @@ public final class SilverBall {
             pass();
         }
 
-        private static int mostOf(int word) {
-            switch (word) {
-                case SWITCH:
-                    return MOST_SWITCHES;
-                case COIL:
-                    return MOST_COILS;
-                case APART:
-                    return MOST_APARTS;
-                case LAMP:
-                    return MOST_LAMPS;
-                case PLACE:
-                    return MOST_PLACES;
-                case WAY:
-                    return MOST_WAYS;
-                default:
-                    return MOST_VARS;
-            }
-        }
-
         private void checkPart() {
             int word = text.kindAt(at);
-            passNewOne(word, mostOf(word));
+            passNewOne(word, Table.roomFor(word));
             need(NAME);
             switch (word) {
                 case SWITCH:
@@ -914,8 +896,29 @@ public final class SilverBall {
         /** 0 of a mode without. */
         final int[] times = new int[MOST_MODES];
         /** The modes, the highest rank first. */
-        final int[] order = new int[MOST_MODES];
+        private final int[] order = new int[MOST_MODES];
         final Rules rules = new Rules();
+
+        static int roomFor(int sort) {
+            switch (sort) {
+                case SWITCH:
+                    return MOST_SWITCHES;
+                case COIL:
+                    return MOST_COILS;
+                case APART:
+                    return MOST_APARTS;
+                case LAMP:
+                    return MOST_LAMPS;
+                case PLACE:
+                    return MOST_PLACES;
+                case WAY:
+                    return MOST_WAYS;
+                case VAR:
+                    return MOST_VARS;
+                default:
+                    return MOST_MODES;
+            }
+        }
 
         boolean has(int sort, int number) {
             return sort >= 0 && sort < many.length && number >= 0 && number < many[sort];
@@ -930,7 +933,7 @@ public final class SilverBall {
             }
             for (int i = 0; i < text.size(); i++) {
                 int kind = text.kindAt(i);
-                if (kind <= MODE) {
+                if (kind <= MODE && many[kind] < roomFor(kind)) {
                     takeOne(text, i, kind);
                     many[kind]++;
                 }
@@ -968,6 +971,10 @@ public final class SilverBall {
                 aparts[one] |= 1 << other;
                 aparts[other] |= 1 << one;
             }
+        }
+
+        int inOrder(int i) {
+            return i >= 0 && i < order.length ? order[i] : NONE;
         }
 
         private void putInOrder() {
@@ -1140,9 +1147,11 @@ public final class SilverBall {
             int open = 0;
             int sum = 0;
             int term = 1;
+            // till its first unit comes an E has no term that a minus could end
             boolean fresh = true;
-            for (end = Math.max(0, from); end < rules.size(); end++) {
-                int kind = rules.kindAt(end);
+            for (int at = Math.max(0, from); at < rules.size(); at++) {
+                end = at;
+                int kind = rules.kindAt(at);
                 if (kind == OPEN && open < outerSums.length) {
                     outerSums[open] = sum;
                     outerTerms[open] = term;
@@ -1154,13 +1163,11 @@ public final class SilverBall {
                     open--;
                     term = outerTerms[open] * (sum + term);
                     sum = outerSums[open];
-                    fresh = false;
                 } else if (kind == PLUS || kind == MINUS) {
                     sum += fresh ? 0 : term;
                     term = kind == PLUS ? 1 : -1;
-                    fresh = false;
                 } else if (kind == INT || kind == NAME || kind == LEFT || kind == BALLS) {
-                    term *= unit(kind, rules.numberAt(end), vars, left, inPlay);
+                    term *= unit(kind, rules.numberAt(at), vars, left, inPlay);
                     fresh = false;
                 } else if (kind != TIMES) {
                     return sum + term;
@@ -1293,18 +1300,22 @@ public final class SilverBall {
         /** Three balls at eight places: 120 layouts; those of fewer balls are fewer. */
         private static final int MOST = 120;
         private final Table table;
-        private int[] known = new int[MOST];
-        private int[] before = new int[MOST];
+        private int[] known;
+        private int[] before;
         /** A layout is known if its mark is that of the latest change. */
-        private final int[] marks = new int[CODES];
+        private final int[] marks;
         private int mark = 0;
         int size = 0;
         private int sizeBefore = 0;
         int inPlay = 0;
         int lost = 0;
 
-        Layouts(Table table) {
+        /** Unless layouts are wanted only the balls in play are counted, and no layout is known. */
+        Layouts(Table table, boolean wanted) {
             this.table = table;
+            known = new int[wanted ? MOST : 0];
+            before = new int[wanted ? MOST : 0];
+            marks = new int[wanted ? CODES : 0];
         }
 
         /** No ball in play: one layout, without places none. */
@@ -1340,6 +1351,9 @@ public final class SilverBall {
 
         /** A press that counts of the switch. */
         void moveBallBy(int s) {
+            if (known.length == 0) {
+                return;
+            }
             boolean any = false;
             for (int w = 0; w < table.many[WAY] && w < MOST_WAYS; w++) {
                 if (table.wayBy[w] == s) {
@@ -1447,6 +1461,100 @@ public final class SilverBall {
         }
     }
 
+    /** The modes of a game: which are on, and since when. */
+    private static final class Modes {
+        private final Table table;
+        final boolean[] on = new boolean[MOST_MODES];
+        final int[] left = new int[MOST_MODES];
+        final int[] starts = new int[MOST_MODES];
+        /** How often a mode went off: one that did meanwhile is told from one that was on all the time. */
+        private final int[] offs = new int[MOST_MODES];
+        /** The same as it was when the press or the tick came; NONE of a mode that was off then. */
+        private final int[] offsThen = new int[MOST_MODES];
+        /** How many are on that have a time: without any a tick does nothing to modes. */
+        int withTime = 0;
+
+        Modes(Table table) {
+            this.table = table;
+        }
+
+        void clear() {
+            withTime = 0;
+            for (int m = 0; m < on.length; m++) {
+                on[m] = false;
+                left[m] = 0;
+                starts[m] = 0;
+                offs[m] = 0;
+            }
+        }
+
+        void remember() {
+            for (int m = 0; m < table.many[MODE] && m < offsThen.length; m++) {
+                offsThen[m] = on[m] ? offs[m] : NONE;
+            }
+        }
+
+        /** Whether it was on when the press or the tick came, and did not go off meanwhile. */
+        boolean isOnSinceThen(int m) {
+            return m >= 0 && m < offsThen.length && offsThen[m] == offs[m];
+        }
+
+        boolean isOn(int m) {
+            return m >= 0 && m < on.length && on[m];
+        }
+
+        int timeLeftOf(int m) {
+            return m >= 0 && m < left.length ? left[m] : 0;
+        }
+
+        int offsOf(int m) {
+            return m >= 0 && m < offs.length ? offs[m] : 0;
+        }
+
+        /** Whether it was off till now; of one that is on the time begins anew. */
+        boolean turnOn(int m) {
+            if (!table.has(MODE, m) || m >= on.length) {
+                return false;
+            }
+            left[m] = table.times[m];
+            if (on[m]) {
+                return false;
+            }
+            on[m] = true;
+            starts[m]++;
+            withTime += table.times[m] > 0 ? 1 : 0;
+            return true;
+        }
+
+        /** Whether it was on till now. */
+        boolean turnOff(int m) {
+            if (!isOn(m)) {
+                return false;
+            }
+            on[m] = false;
+            left[m] = 0;
+            offs[m]++;
+            withTime -= table.times[m] > 0 ? 1 : 0;
+            return true;
+        }
+
+        /** As by tilt: without their rules on stop. */
+        void turnOffAllButFirst() {
+            for (int m = 1; m < table.many[MODE]; m++) {
+                turnOff(m);
+            }
+        }
+
+        /** One tick less is left of its time; whether none is left now. */
+        boolean passTimeOf(int m) {
+            if (!isOnSinceThen(m) || table.times[m] <= 0) {
+                return false;
+            }
+            left[m]--;
+            return left[m] <= 0;
+        }
+    }
+
     /** A game on a table. */
     private static final class Game {
         private final Table table;
@@ -1455,14 +1563,8 @@ public final class SilverBall {
         final Switches switches;
         final Coils coils;
         final Layouts layouts;
+        final Modes modes;
         final int[] vars = new int[MOST_VARS];
-        final boolean[] on = new boolean[MOST_MODES];
-        final int[] left = new int[MOST_MODES];
-        final int[] starts = new int[MOST_MODES];
-        /** How often a mode went off: one that did meanwhile is told from one that was on all the time. */
-        private final int[] offs = new int[MOST_MODES];
-        /** The same as it was when the press or the tick came; NONE of a mode that was off then. */
-        private final int[] offsThen = new int[MOST_MODES];
         long points = 0;
         /** 1 to 3; 0 when the game is over. */
         int ball = 0;
@@ -1472,13 +1574,14 @@ public final class SilverBall {
         private int acts = 0;
         private boolean held = false;
 
-        Game(Table table) {
+        Game(Table table, boolean withLayouts) {
             this.table = table;
             rules = table.rules;
             sums = new Sums(table.rules);
             switches = new Switches(table);
             coils = new Coils(table);
-            layouts = new Layouts(table);
+            layouts = new Layouts(table, withLayouts);
+            modes = new Modes(table);
         }
 
         void open() {
@@ -1488,20 +1591,15 @@ public final class SilverBall {
             for (int v = 0; v < vars.length; v++) {
                 vars[v] = table.firsts[v];
             }
-            for (int m = 0; m < on.length; m++) {
-                on[m] = false;
-                left[m] = 0;
-                starts[m] = 0;
-                offs[m] = 0;
-            }
+            modes.clear();
             points = 0;
             ball = 1;
             tick = 0;
             endless = false;
             tilted = false;
             layouts.takeBall();
-            remember();
-            if (goesOn(0)) {
+            beginActs();
+            if (modes.turnOn(0)) {
                 doRules(0, ON_BEGIN, 1);
             }
             endBallIfNoneInPlay();
@@ -1513,10 +1611,10 @@ public final class SilverBall {
                 return false;
             }
             layouts.moveBallBy(s);
-            remember();
-            for (int i = 0; i < table.many[MODE] && i < MOST_MODES && !held; i++) {
-                int m = table.order[i];
-                if (isOnSinceThen(m)) {
+            beginActs();
+            for (int i = 0; i < table.many[MODE] && !held; i++) {
+                int m = table.inOrder(i);
+                if (modes.isOnSinceThen(m)) {
                     doRules(m, s, 0);
                 }
             }
@@ -1527,43 +1625,31 @@ public final class SilverBall {
         /** One tick goes by; how many coils fired in it. */
         int passTick() {
             tick++;
-            if (ball != 0) {
-                remember();
-                for (int i = 0; i < table.many[MODE] && i < MOST_MODES; i++) {
-                    passTimeOf(table.order[i]);
+            if (ball != 0 && modes.withTime > 0) {
+                beginActs();
+                for (int i = 0; i < table.many[MODE]; i++) {
+                    int m = table.inOrder(i);
+                    if (modes.passTimeOf(m) && modes.turnOff(m)) {
+                        doRules(m, ON_STOP, 1);
+                    }
                 }
                 endBallIfNoneInPlay();
             }
             return coils.fireAt(tick);
         }
 
-        private void passTimeOf(int m) {
-            if (isOnSinceThen(m) && table.times[m] > 0) {
-                left[m]--;
-                if (left[m] == 0 && goesOff(m)) {
-                    doRules(m, ON_STOP, 1);
-                }
-            }
-        }
-
-        /** Which modes are on as a press, a tick or the game's begin comes. */
-        private void remember() {
+        /** A press, a tick or the game's begin comes, with all of which acts may be done in it. */
+        private void beginActs() {
             acts = 0;
             held = false;
-            for (int m = 0; m < offsThen.length; m++) {
-                offsThen[m] = on[m] ? offs[m] : NONE;
-            }
-        }
-
-        private boolean isOnSinceThen(int m) {
-            return m >= 0 && m < offsThen.length && offsThen[m] == offs[m];
+            modes.remember();
         }
 
         private void endBallIfNoneInPlay() {
             if (ball == 0 || layouts.inPlay > 0) {
                 return;
             }
-            sendModesOff();
+            modes.turnOffAllButFirst();
             tilted = false;
             if (ball == MOST_BALLS) {
                 ball = 0;
@@ -1577,48 +1663,16 @@ public final class SilverBall {
             return ball == 0 ? MOST_BALLS : ball - 1;
         }
 
-        /** All but mode 0, without their rules on stop. */
-        private void sendModesOff() {
-            for (int m = 1; m < table.many[MODE]; m++) {
-                goesOff(m);
-            }
-        }
-
-        /** Whether it was off till now; of one that is on the time begins anew. */
-        private boolean goesOn(int m) {
-            if (!table.has(MODE, m) || m >= on.length) {
-                return false;
-            }
-            left[m] = table.times[m];
-            if (on[m]) {
-                return false;
-            }
-            on[m] = true;
-            starts[m]++;
-            return true;
-        }
-
-        /** Whether it was on till now. */
-        private boolean goesOff(int m) {
-            if (m < 0 || m >= on.length || !on[m]) {
-                return false;
-            }
-            on[m] = false;
-            left[m] = 0;
-            offs[m]++;
-            return true;
-        }
-
         /** The rules of the mode on the event; the depth is 0 for those on a switch. */
         private void doRules(int m, int event, int depth) {
-            if (depth > MOST_WITHIN || m < 0 || m >= offs.length) {
+            if (depth > MOST_WITHIN) {
                 return;
             }
-            int offsAhead = offs[m];
+            int offsAhead = modes.offsOf(m);
             for (int rule = rules.headOf(m); rule < rules.headOf(m + 1); rule++) {
                 if (rules.isOn(rule, event) && holds(rule, m)) {
                     doActs(rule, m, depth);
-                    boolean wentOff = event != ON_STOP && offs[m] != offsAhead;
+                    boolean wentOff = event != ON_STOP && modes.offsOf(m) != offsAhead;
                     if (wentOff || depth == 0 && held) {
                         return;
                     }
@@ -1649,12 +1703,12 @@ public final class SilverBall {
                         assign(number, work(at + 2, m));
                         break;
                     case START:
-                        if (goesOn(number)) {
+                        if (modes.turnOn(number)) {
                             doRules(number, ON_BEGIN, depth + 1);
                         }
                         break;
                     case LEAVE:
-                        if (goesOff(m)) {
+                        if (modes.turnOff(m)) {
                             doRules(m, ON_STOP, depth + 1);
                         }
                         break;
@@ -1672,7 +1726,7 @@ public final class SilverBall {
                         break;
                     default:
                         tilted = true;
-                        sendModesOff();
+                        modes.turnOffAllButFirst();
                         break;
                 }
             }
@@ -1691,7 +1745,7 @@ public final class SilverBall {
         }
 
         private int work(int from, int m) {
-            return sums.work(from, vars, m >= 0 && m < left.length ? left[m] : 0, layouts.inPlay);
+            return sums.work(from, vars, modes.timeLeftOf(m), layouts.inPlay);
         }
 
         private boolean holds(int rule, int m) {
@@ -1726,16 +1780,13 @@ public final class SilverBall {
             if (ball == 0 || tilted) {
                 return false;
             }
-            for (int i = 0; i < table.many[MODE] && i < MOST_MODES; i++) {
-                int m = table.order[i];
-                for (int rule = rules.headOf(m); on[m] && rule < rules.headOf(m + 1); rule++) {
-                    if (rules.isOn(rule, s) && holds(rule, m)) {
-                        if (rules.pays(rule)) {
-                            return true;
-                        }
-                        if (rules.hasHold(rule)) {
-                            return false;
-                        }
+            for (int i = 0; i < table.many[MODE]; i++) {
+                int m = table.inOrder(i);
+                int end = modes.isOn(m) ? rules.headOf(m + 1) : 0;
+                for (int rule = rules.headOf(m); rule < end; rule++) {
+                    boolean asked = rules.isOn(rule, s) && (rules.pays(rule) || rules.hasHold(rule));
+                    if (asked && holds(rule, m)) {
+                        return rules.pays(rule);
                     }
                 }
             }

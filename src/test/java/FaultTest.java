@@ -35,6 +35,7 @@ public final class FaultTest {
         due(0, "");
         due(0, " \t\r\n ");
         due(0, "switch abcdefgh 99999;");
+        due(0, "switch zyxwv098 00000; switch z 1; switch a9z 1;");
         due(1, "switch ^abcdefghi 1;");
         due(1, "switch ^a2345678901234567890 1;");
         due(1, "switch a ^123456;");
@@ -143,6 +144,9 @@ public final class FaultTest {
         due(1, "mode m 0; on begin if 1^: hold; end");
         due(1, "mode m 0; on begin if 1 ==^: hold; end");
         due(1, "mode m 0; on begin if 1 == 1 ^== 1: hold; end");
+        due(1, "mode m 0; on begin if 1 ^1: hold; end");
+        due(1, "mode m 0; on begin if 1 ^(1): hold; end");
+        due(1, "mode m 0; on begin if 1 ^left: hold; end");
         due(1, "mode m 0; on begin if 1 == 1 and^: hold; end");
         due(1, "mode m 0; on begin if 1 == 1 and 1^: hold; end");
         due(1, "mode m 0; on begin if 1 == 1 ^if 1 == 1: hold; end");

@@ -25,6 +25,8 @@ public final class ModelTest {
                 test.compareFaults();
             } else {
                 test.compareGames();
+                // and a second table on the same object
+                test.compareGames();
             }
         }
         StringBuilder seen = new StringBuilder("ModelTest has seen:");

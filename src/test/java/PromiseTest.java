@@ -40,6 +40,8 @@ public final class PromiseTest {
         ring();
         count();
         log();
+        secondGame();
+        secondTable();
         T.close();
     }
 
@@ -265,6 +267,11 @@ public final class PromiseTest {
         T.due("11 d behind it", x.coil(3, 2), 1);
         T.due("8 b and d", x.ticks(1), 2);
         T.due("11 none waits", x.coil(3, 2), NONE);
+        x = Tally.playing("switch s 0; coil a 0; coil b 0; coil c 0; apart a b; apart a c; mode m 0;"
+                + "on s: fire b, fire a; on s: score 1; end");
+        x.press(0);
+        T.due("7 a fire is no hold", x.score(), 1);
+        T.due("8 apart from two", x.ticks(1), 1);
         x = Tally.playing("switch s 0; switch out 0; coil a 0; coil b 2; apart a b; mode m 0;"
                 + "on begin: fire b; on s: fire b, fire a; on out: drain; end");
         x.ticks(1);
@@ -298,6 +305,8 @@ public final class PromiseTest {
         T.due("12 serve", x.lamp(1), 1);
         x.press(0);
         T.due("12 held by a mode ahead", x.lamp(0), 0);
+        x = Tally.playing(heads + "mode m 0; on a: hold; on a: score 1; end");
+        T.due("12 held by a rule ahead", x.lamp(0), 0);
         x = Tally.playing(heads + "mode m 1; on a: set v 1; on a if v == 1: score 1; on b: hold, score 1;"
                 + "on out: drain, drain; end");
         T.due("12 nothing is done", x.lamp(0), 0);
@@ -340,6 +349,10 @@ public final class PromiseTest {
         due("2 * (-(1 + 1) * 3) - 1", -13);
         due("-(-(-((-5))))", 5);
         due("((((((6))))))", 6);
+        due("(3) - 1", 2);
+        due("5 + (1 + 1)", 7);
+        due("5 - (1 + 1) * (2 - 3) - 1", 6);
+        due("2 * (3) - (1) - 1", 4);
         due("balls * 100 + left", 104);
         due("00012", 12);
         due("99999 * 99999", 1409865409);
@@ -373,7 +386,7 @@ public final class PromiseTest {
 
     private static void modes() {
         SilverBall x = new SilverBall();
-        Tally.read(x, "switch a 0; mode m 7; on a: start n; end mode n 99999 time 5; end");
+        Tally.read(x, "switch a 0; mode m 7; on a: start n; end mode n 99999 time 5; on begin: score 3; end");
         T.due("14 rank without a game", x.mode(1, 3), 99999);
         T.due("14 on without a game", x.mode(0, 0), NONE);
         T.due("14 time without a game", x.mode(0, 1), NONE);
@@ -386,9 +399,11 @@ public final class PromiseTest {
         x.press(0);
         x.ticks(2);
         T.due("14 on", x.mode(1, 0), 1);
+        T.due("14 no rules on begin of one that is on", x.score(), 3);
         T.due("14 time left", x.mode(1, 1), 3);
         x.press(0);
         T.due("14 begins anew", x.mode(1, 1), 5);
+        T.due("14 without its rules on begin", x.score(), 3);
         T.due("14 started once", x.mode(1, 2), 1);
         x.ticks(5);
         T.due("14 left", x.mode(1, 0), 0);
@@ -440,6 +455,7 @@ public final class PromiseTest {
                 + "on b: start o; end mode o 0; on begin: hold; on begin: leave; on stop: hold; end");
         x.press(0);
         T.due("7 held behind the acts of the rule", x.value(0), 23);
+        T.due("7 a hold is no drain", x.count(7), 1);
         x.press(1);
         T.due("7 hold on begin, on stop does nothing", x.value(0), 235);
         x = Tally.playing("switch a 0; var v 0; mode m 0; on a: hold, start n; on a: set v 99; end"
@@ -652,6 +668,10 @@ public final class PromiseTest {
         T.due("15 it is at p", x.balls(0, false), 1);
         T.due("15 no place", x.balls(3, true), NONE);
         T.due("15 below 0", x.balls(-1, false), NONE);
+        x.press(0);
+        x.press(2);
+        x.press(3);
+        T.due("18 from the last place too", x.count(10), 3);
         x.press(3);
         x.press(3);
         T.due("18 over: the layout without a ball", x.count(10), 1);
@@ -739,6 +759,11 @@ public final class PromiseTest {
         dueRing("mode m 0; on begin: start n; end mode n 0; on begin: leave; on stop: start m; end", 0);
         dueRing("mode m 0; on begin: start n; end mode n 0; on stop: start m; end", NONE);
         dueRing("mode m 0; on begin: start m; end", 0);
+        dueRing("mode m 0; on begin: start o, start n; end mode n 0; on begin: start m; end mode o 0; end", 0);
+        dueRing("switch a 0; mode m 0; on begin: start n; on a: leave; on stop: score 1; end mode n 0; on begin: score 1;"
+                + "on a: start m; end", NONE);
+        dueRing("switch a 0; mode m 0; on begin: start n; end mode n 0; on begin: leave; on stop: start o;"
+                + "end mode o 0; on begin: leave; on stop: start n; end", 1);
         dueRing("", NONE);
         SilverBall x = new SilverBall();
         Tally.read(x, "mode m 0; on begin: score 1, start m; end");
@@ -779,6 +804,87 @@ public final class PromiseTest {
         x.read();
         T.due("18 no game any more", x.count(9), 0);
         T.due("18 no table of then", x.count(0), 0);
+    }
+
+    /** All that a game left is away when the next one begins. */
+    private static void secondGame() {
+        SilverBall x = Tally.playing("switch a 0; switch out 0; switch t 0; coil c 50; coil d 50; place p; place q;"
+                + "way p q by a; mode m 0 time 9; on a: start n, fire c, score 2; on out: drain; on t: tilt; end"
+                + " mode n 0 time 4; on stop: score 1; end");
+        x.press(0);
+        x.ticks(1);
+        x.press(0);
+        x.press(1);
+        x.press(1);
+        x.press(0);
+        x.press(2);
+        T.due("18 lost", x.count(11), 1);
+        T.due("10 stuck", x.told(2, 2), 0);
+        x.begin();
+        int[] want = {1, 1, 0, 1, 0, 0, 0, 0};
+        for (int i = 0; i < want.length; i++) {
+            T.due("6 count " + (i + 7), x.count(i + 7), want[i]);
+        }
+        for (int s = 0; s < 3; s++) {
+            T.due("6 counted", x.told(s, 0), 0);
+            T.due("6 pressed", x.told(s, 1), 0);
+            T.due("6 stuck", x.told(s, 2), 0);
+        }
+        T.due("6 fired", x.coil(0, 0), 0);
+        T.due("6 fired last", x.coil(0, 1), NONE);
+        T.due("6 waits", x.coil(0, 2), NONE);
+        T.due("6 n is off", x.mode(1, 0), 0);
+        T.due("6 its time", x.mode(1, 1), 0);
+        T.due("6 its starts", x.mode(1, 2), 0);
+        T.due("6 m is on", x.mode(0, 0), 1);
+        T.due("6 its time begins anew", x.mode(0, 1), 9);
+        T.due("6 it started", x.mode(0, 2), 1);
+        T.due("8 no coil is left from then", x.ticks(1), 0);
+        x.press(1);
+        x.press(1);
+        T.due("10 a is stuck though it counted in the game ahead", x.told(0, 2), 1);
+        x.press(0);
+        T.due("9 not tilted", x.score(), 2);
+        T.due("8 the coil has no rest from then", x.ticks(1), 1);
+    }
+
+    /** All that a table told is away when the next one is read. */
+    private static void secondTable() {
+        SilverBall x = new SilverBall();
+        StringBuilder full = new StringBuilder();
+        for (int i = 0; i < 8; i++) {
+            full.append("switch s" + i + " 0; coil c" + i + " 9; place p" + i + "; lamp l" + i + " s0; var v" + i + " 0;"
+                    + (i > 0 ? "apart c0 c" + i + "; way p0 p" + i + ";" : ""));
+        }
+        for (int i = 0; i < 6; i++) {
+            full.append("mode m" + i + " 0 time 5; on begin: start m" + (i + 1) % 6 + "; on s0: score 1, hold; end ");
+        }
+        T.due("4 a full table", Tally.read(x, full.toString()), 0);
+        T.due("17 its ring", x.ring(), 0);
+        T.due("4 the same again", Tally.read(x, full.toString()), 0);
+        x.begin();
+        x.ticks(3);
+        String small = "switch s0 0; coil c0 0; coil c1 0; place p0; place p1; lamp l0 s0; mode m0 1;"
+                + "on begin: fire c0, fire c1; on s0: leave; end mode m1 2; end";
+        T.due("4 a small table", Tally.read(x, small), 0);
+        int[] want = {1, 2, 1, 2, 0, 2, 2};
+        for (int i = 0; i < want.length; i++) {
+            T.due("18 count " + i, x.count(i), want[i]);
+        }
+        T.due("17 no ring", x.ring(), NONE);
+        x.begin();
+        T.due("8 not apart", x.ticks(1), 2);
+        T.due("15 no way", x.balls(1, true), 0);
+        T.due("12 no act that counts", x.lamp(0), 0);
+        T.due("14 no time", x.mode(0, 1), 0);
+        T.due("14 its rank", x.mode(1, 3), 2);
+        T.due("13 no var", x.value(0), 0);
+        T.due("4 a table without holds", Tally.read(x, "switch s 0; lamp l s; mode m 0; on begin: score 1;"
+                + "on s: leave; on s: serve; end"), 0);
+        x.begin();
+        T.due("12 no hold of then", x.lamp(0), 1);
+        T.due("4 names of then are not told", Tally.read(x, "lamp l s0;"), 4);
+        T.due("4 nor modes", Tally.read(x, "mode a 0; on begin: start m1; end"), 4);
     }
 
     /** 600 presses are more than an object is used for; the log has its end all the same. */
