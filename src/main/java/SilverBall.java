@@ -279,18 +279,17 @@ public final class SilverBall {
             return NONE;
         }
         replay.open();
-        for (int i = 0; i < logged && i < MOST_PRESSES; i++) {
-            passTicksOfReplay(logTicks[i]);
-            replay.hit(logSwitches[i]);
+        for (int i = 0; i <= logged; i++) {
+            boolean isPress = i < logged && i < MOST_PRESSES;
+            int till = isPress ? logTicks[i] : game.tick;
+            for (int tick = replay.tick; tick < till; tick++) {
+                replay.passTick();
+            }
+            if (isPress) {
+                replay.hit(logSwitches[i]);
+            }
         }
-        passTicksOfReplay(game.tick);
         return replay.points;
-    }
-
-    private void passTicksOfReplay(int till) {
-        for (int tick = replay.tick; tick < till; tick++) {
-            replay.passTick();
-        }
     }
 
     public int ring() {
