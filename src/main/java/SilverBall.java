@@ -1289,9 +1289,9 @@ public final class SilverBall {
     }
 
     /**
-     * How many balls are in play, and the layouts that can be. A layout is a number of three digits to the base 9, the greatest first: a
-     * digit for each ball, one more than the place where it is, 0 of a ball that is not in play. So a
-     * serve, a drain and a way are all the same: one digit becomes another.
+     * How many balls are in play, and the layouts that can be. A layout is a number of three digits to the
+     * base 9, the greatest first: a digit for each ball, one more than the place where it is, 0 of a ball that
+     * is not in play. So a serve, a drain and a way are all the same: one digit becomes another.
      */
     private static final class Layouts {
         private static final int BASE = MOST_PLACES + 1;

@@ -521,9 +521,9 @@ public final class PromiseTest {
         T.due("14 off meanwhile", x.mode(2, 0), 0);
         T.due("14 off and on again meanwhile", x.mode(3, 1), 4);
         T.due("14 on meanwhile", x.mode(5, 1), 4);
-        x = Tally.playing("mode m 0; on begin: start a, start b, start c; end mode a 9 time 1; on stop: start b,"
+        x = Tally.playing("mode m 0; on begin: start a, start b, start c; end mode a 9 time 2; on stop: start b,"
                 + "start c; end mode b 5 time 3; end mode c 9 time 7; end");
-        x.ticks(1);
+        x.ticks(2);
         T.due("14 begun anew, then one less", x.mode(2, 1), 2);
         T.due("14 of the same rank the lesser number ahead", x.mode(3, 1), 6);
         x = Tally.playing("switch a 0; mode m 0 time 50; on a: drain; end");
