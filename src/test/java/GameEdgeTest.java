@@ -1164,6 +1164,12 @@ public final class GameEdgeTest {
         T.due("behind: lost once", x.count(11), 1);
         T.due("behind: it scores", x.score(), 3);
         T.due("behind: no rest", x.ticks(1), 2);
+        x = Tally.playing("switch a 0; place p; place q; place r; way q r; way r q by a;");
+        x.press(0);
+        T.due("behind: all layouts of a ball that is lost", x.count(10), 3);
+        x.begin();
+        T.due("behind: one of a ball that is not", x.count(10), 1);
+        T.due("behind: from place 0 no way is silent", x.balls(0, false), 1);
     }
 
     // "REL: E ('==' | '!=' | '<' | '<=') E": less, the same, more; ints below 0 and ints that wrapped
