@@ -1273,7 +1273,7 @@ public final class SilverBall {
             int kept = 0;
             for (int i = 0; i < waiting && i < row.length; i++) {
                 int c = row[i];
-                boolean rested = fired[c] == 0 || tick - latest[c] >= table.rests[c];
+                boolean rested = table.has(COIL, c) && (fired[c] == 0 || tick - latest[c] >= table.rests[c]);
                 if (rested && (table.aparts[c] & firedNow) == 0) {
                     fired[c]++;
                     latest[c] = tick;
